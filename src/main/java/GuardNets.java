@@ -754,26 +754,29 @@ public final class GuardNets {
 
     /** For which SETS a KNOT is REACHED, as one bit for each SET of the STEPS that it has letters of. */
     private static final class Tables {
-        // At most 10 KNOTS that NETS stand for and 20 parts of one TEXT wait to be used at any time.
-        static final int SLOTS = 40, MOST_LEAST = 200;
+        // Rows of the pool: one for each STEP, then those that KNOTS take and leave. At most 10 KNOTS that
+        // NETS stand for and 20 parts of one TEXT wait to be used at any time.
+        static final int ROWS = STEPS + 40, MOST_LEAST = 200;
         private static final long[] STRIPES = {
             0xAAAAAAAAAAAAAAAAL, 0xCCCCCCCCCCCCCCCCL, 0xF0F0F0F0F0F0F0F0L,
             0xFF00FF00FF00FF00L, 0xFFFF0000FFFF0000L, 0xFFFFFFFF00000000L};
 
         final Nets nets;
+        // STEPS of the NET by rank, and their ranks.
         final int[] order = new int[STEPS];
         final int[] rank = new int[STEPS];
         int steps = 0;
-        int words = 0;
+        int words = 1;
         int root = -1;
+        // Where the NET's own row begins.
         int base = 0;
         // Whether some KNOT of the NET has too many least SETS.
         boolean over = false;
-        long[] pool = new long[SLOTS];
-        final boolean[] busy = new boolean[SLOTS];
+        long[] pool = new long[ROWS];
+        final boolean[] busy = new boolean[ROWS];
         final boolean[] needed = new boolean[Nets.ROOM];
         final int[] lastUse = new int[Nets.ROOM];
-        final int[] slot = new int[Nets.ROOM];
+        final int[] row = new int[Nets.ROOM];
         // How many least SETS a KNOT has; 0 if that was not counted yet.
         final int[] leasts = new int[Nets.ROOM];
         final long[] tally = new long[Reader.MOST_NETS + 1];
@@ -792,14 +795,17 @@ public final class GuardNets {
             root = knot;
             rankSteps(nets.letters[knot]);
             words = steps <= 6 ? 1 : 1 << steps - 6;
-            if (pool.length < SLOTS * words) pool = new long[SLOTS * words];
-            Arrays.fill(busy, false);
+            if (pool.length < ROWS * words) pool = new long[ROWS * words];
+            for (int r = 0; r < steps; r++) fillStep(r);
+            for (int r = 0; r < ROWS; r++) busy[r] = r < STEPS;
             markNeeded();
             over = false;
             for (int k = 0; k <= root; k++) {
-                if (needed[k] && (k == root || nets.sorts[k] != Nets.LETTER)) fillKnot(k);
+                if (!needed[k]) continue;
+                if (nets.sorts[k] == Nets.LETTER) row[k] = rank[nets.sizes[k]];
+                else fillKnot(k);
             }
-            base = slot[root] * words;
+            base = row[root] * words;
         }
 
         private void rankSteps(int letters) {
@@ -813,10 +819,21 @@ public final class GuardNets {
             }
         }
 
+        private void fillStep(int r) {
+            for (int w = 0; w < words; w++) {
+                if (r < STRIPES.length) pool[r * words + w] = STRIPES[r];
+                else pool[r * words + w] = hasRank(w, r) ? -1L : 0L;
+            }
+        }
+
+        /** Whether all SETS of a word have the STEP of a rank above those that tell them apart in the word. */
+        private static boolean hasRank(int w, int r) {
+            return (w >> r - STRIPES.length & 1) == 1;
+        }
+
         private void markNeeded() {
-            Arrays.fill(needed, false);
+            for (int k = 0; k < root; k++) needed[k] = false;
             needed[root] = true;
-            lastUse[root] = root + 1;
             for (int k = root; k >= 0; k--) {
                 int n = needed[k] && nets.sorts[k] != Nets.LETTER ? nets.sizes[k] : 0;
                 for (int i = 0; i < n; i++) {
@@ -829,58 +846,45 @@ public final class GuardNets {
         }
 
         private void fillKnot(int k) {
-            int to = freeSlot();
-            for (int w = 0; w < words; w++) pool[to * words + w] = joinedWord(k, w);
+            int to = STEPS;
+            while (to < ROWS - 1 && busy[to]) to++;
             busy[to] = true;
-            slot[k] = to;
-            freeParts(k);
+            row[k] = to;
+            if (nets.sorts[k] == Nets.SOME) fillSome(k);
+            else fillRow(k);
+            for (int i = 0; i < nets.sizes[k]; i++) {
+                int part = nets.partOf(k, i);
+                if (nets.sorts[part] != Nets.LETTER && lastUse[part] == k) busy[row[part]] = false;
+            }
             if (leasts[k] == 0) leasts[k] = countLeast(to * words);
             if (leasts[k] > MOST_LEAST) over = true;
         }
 
-        private int freeSlot() {
-            int to = 0;
-            while (to < SLOTS - 1 && busy[to]) to++;
-            return to;
-        }
-
-        private void freeParts(int k) {
-            int n = nets.sorts[k] == Nets.LETTER ? 0 : nets.sizes[k];
-            for (int i = 0; i < n; i++) {
-                int part = nets.partOf(k, i);
-                if (nets.sorts[part] != Nets.LETTER && lastUse[part] == k) busy[slot[part]] = false;
-            }
-        }
-
-        private long joinedWord(int k, int w) {
-            if (nets.sorts[k] == Nets.LETTER) return partWord(k, w);
-            if (nets.sorts[k] == Nets.SOME) return someWord(k, w);
+        private void fillRow(int k) {
+            int to = row[k] * words;
             boolean any = nets.sorts[k] == Nets.ANY;
-            long word = partWord(nets.partOf(k, 0), w);
-            for (int i = 1; i < nets.sizes[k]; i++) {
-                long next = partWord(nets.partOf(k, i), w);
-                word = any ? word | next : word & next;
+            for (int w = 0; w < words; w++) pool[to + w] = any ? 0L : -1L;
+            for (int i = 0; i < nets.sizes[k]; i++) {
+                int from = row[nets.partOf(k, i)] * words;
+                for (int w = 0; w < words; w++) {
+                    if (any) pool[to + w] |= pool[from + w];
+                    else pool[to + w] &= pool[from + w];
+                }
             }
-            return word;
         }
 
         /** Counts the parts that are REACHED, for 64 SETS at once: tally[n] tells where n of them are. */
-        private long someWord(int k, int w) {
+        private void fillSome(int k) {
             int need = Math.min(nets.needs[k], tally.length - 1);
-            Arrays.fill(tally, 0L);
-            tally[0] = -1L;
-            for (int i = 0; i < nets.sizes[k]; i++) {
-                long next = partWord(nets.partOf(k, i), w);
-                for (int n = need; n > 0; n--) tally[n] |= tally[n - 1] & next;
+            for (int w = 0; w < words; w++) {
+                Arrays.fill(tally, 0L);
+                tally[0] = -1L;
+                for (int i = 0; i < nets.sizes[k]; i++) {
+                    long part = pool[row[nets.partOf(k, i)] * words + w];
+                    for (int n = need; n > 0; n--) tally[n] |= tally[n - 1] & part;
+                }
+                pool[row[k] * words + w] = tally[need];
             }
-            return tally[need];
-        }
-
-        private long partWord(int k, int w) {
-            if (nets.sorts[k] != Nets.LETTER) return pool[slot[k] * words + w];
-            int r = rank[nets.sizes[k]];
-            if (r < 6) return STRIPES[r];
-            return (w >> r - 6 & 1) == 0 ? 0L : -1L;
         }
 
         private int countLeast(int at) {
@@ -894,11 +898,11 @@ public final class GuardNets {
             long have = pool[at + w];
             long more = 0;
             for (int r = 0; r < steps; r++) {
-                if (r < 6) more |= have << (1 << r) & STRIPES[r];
-                else if ((w >> r - 6 & 1) == 1) more |= pool[at + w - (1 << r - 6)];
+                if (r < STRIPES.length) more |= have << (1 << r) & STRIPES[r];
+                else if (hasRank(w, r)) more |= pool[at + w - (1 << r - STRIPES.length)];
             }
             // With few STEPS the row of SETS is there more than once in its word.
-            long told = steps < 6 ? (1L << (1 << steps)) - 1 : -1L;
+            long told = steps < STRIPES.length ? (1L << (1 << steps)) - 1 : -1L;
             return have & ~more & told;
         }
 
@@ -1093,11 +1097,11 @@ public final class GuardNets {
             return true;
         }
 
-        /** 0, too, is written with one digit. */
+        /** No number begins with a limb of 0: so 0 has none at all. */
         int limbsOf(int part) {
             int[] row = part == 0 ? above : below;
             int n = LIMBS;
-            while (n > 1 && row[n - 1] == 0) n--;
+            while (n > 0 && row[n - 1] == 0) n--;
             return n;
         }
 
@@ -1127,7 +1131,8 @@ public final class GuardNets {
         }
 
         private static long commonDivisor(long a, long b) {
-            while (b != 0) {
+            // Numbers below 2 to the 63rd take 91 turns at most.
+            for (int turns = 0; turns < 100 && b != 0; turns++) {
                 long rest = a % b;
                 a = b;
                 b = rest;
@@ -1168,7 +1173,7 @@ public final class GuardNets {
         }
 
         static void putPower(int[] nums, int at, int limbs, int power) {
-            Arrays.fill(nums, at, at + limbs, 0);
+            wipe(nums, at, limbs);
             nums[at] = 1;
             for (int i = 0; i < power; i++) multiply(nums, at, limbs, THOUSAND);
         }
@@ -1203,6 +1208,10 @@ public final class GuardNets {
                 a[i] = (int) (carry & MASK);
                 carry >>= BITS;
             }
+        }
+
+        static void wipe(int[] row, int from, int n) {
+            for (int i = 0; i < n; i++) row[from + i] = 0;
         }
 
         /** The row if it is long enough, else a new one. */
@@ -1267,7 +1276,7 @@ public final class GuardNets {
             lows = Fraction.grown(lows, room);
             highs = Fraction.grown(highs, room);
             hash = Fraction.grown(hash, cells);
-            Arrays.fill(hash, 0, cells, 0);
+            Fraction.wipe(hash, 0, cells);
             mask = cells - 1;
             nodes = 2;
             // Limbs of 30 bits, three STEPS in each.
@@ -1312,7 +1321,7 @@ public final class GuardNets {
         /** Where in nums THE CHANCE stands, in parts of 1000 to the power of how many STEPS. */
         int work() {
             nums = Fraction.grown(nums, nodes * limbs);
-            Arrays.fill(nums, 0, limbs, 0);
+            Fraction.wipe(nums, 0, limbs);
             Fraction.putPower(nums, limbs, limbs, tables.steps);
             for (int n = 2; n < nodes; n++) {
                 Fraction.blend(nums, n * limbs, highs[n] * limbs, lows[n] * limbs, odds[ranks[n]], limbs);
@@ -1358,7 +1367,7 @@ public final class GuardNets {
             takeOdds(0);
             for (int set = 0; set < sets; set++) {
                 if (tables.bit(set) == 1) Fraction.putPower(nums, set * limbs, limbs, tables.steps);
-                else Arrays.fill(nums, set * limbs, (set + 1) * limbs, 0);
+                else Fraction.wipe(nums, set * limbs, limbs);
             }
             for (int r = 0; r < tables.steps; r++) {
                 for (int set = 0; set < sets; set++) {
@@ -1429,7 +1438,8 @@ public final class GuardNets {
         /** Draws THE FRONT; false if SPENT. */
         boolean drawFront(int root) {
             if (root == frontRoot) return true;
-            if (!diagram.mayWork(root)) return false;
+            diagram.draw(root);
+            if (diagram.drawnSize() > Diagram.MOST_SIZE) return false;
             frontRoot = root;
             frontLimbs = diagram.limbs;
             frontSteps = tables.steps;
@@ -1521,7 +1531,7 @@ public final class GuardNets {
 
         boolean hire() {
             if (total >= MOST_PATROLS) return false;
-            Arrays.fill(catching, total * STEPS, (total + 1) * STEPS, 0);
+            Fraction.wipe(catching, total * STEPS, STEPS);
             total++;
             return true;
         }

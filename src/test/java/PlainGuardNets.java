@@ -583,10 +583,10 @@ final class PlainGuardNets {
 
     static List<Integer> limbs(BigInteger v) {
         List<Integer> limbs = new ArrayList<>();
-        do {
+        while (v.signum() > 0) {
             limbs.add(v.mod(BASE).intValue());
             v = v.divide(BASE);
-        } while (v.signum() > 0);
+        }
         return limbs;
     }
 
