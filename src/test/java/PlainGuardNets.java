@@ -18,7 +18,10 @@ final class PlainGuardNets {
     static final class Knot {
         int sort, step, some;
         List<Integer> parts = new ArrayList<>();
+        // Worked once, as a KNOT stays what it is.
         List<Integer> leastSets;
+        Integer size;
+        byte[] known;
     }
 
     static final class Refused extends Exception {
@@ -429,7 +432,10 @@ final class PlainGuardNets {
     }
 
     boolean reaches(int k, int set) {
-        return reaches(k, set, new Boolean[k + 1]);
+        Knot knot = knots.get(k);
+        if (knot.known == null) knot.known = new byte[65536];
+        if (knot.known[set] == 0) knot.known[set] = (byte) (reaches(k, set, new Boolean[k + 1]) ? 2 : 1);
+        return knot.known[set] == 2;
     }
 
     private boolean reaches(int k, int set, Boolean[] known) {
@@ -512,6 +518,7 @@ final class PlainGuardNets {
     // ---- diagrams, chances
 
     private int size(int k) {
+        if (knots.get(k).size != null) return knots.get(k).size;
         int size = 0;
         int letters = letters(k);
         for (int i = 0; i < 16; i++) {
@@ -531,6 +538,7 @@ final class PlainGuardNets {
             }
             size += told.size();
         }
+        knots.get(k).size = size;
         return size;
     }
 
@@ -542,7 +550,7 @@ final class PlainGuardNets {
     private BigInteger chance(int k, int sure, int never) {
         BigInteger total = BigInteger.ZERO;
         int letters = letters(k);
-        for (int set : subsets(letters)) {
+        for (int set : subsets(letters & ~never)) {
             if (!reaches(k, set)) continue;
             BigInteger one = BigInteger.ONE;
             for (int i = 0; i < 16; i++) {

@@ -23,7 +23,7 @@ public final class RandomRunsTest {
 
     public static void main(String[] args) {
         int from = args.length > 0 ? Integer.parseInt(args[0]) : 0;
-        int to = args.length > 1 ? Integer.parseInt(args[1]) : 300;
+        int to = args.length > 1 ? Integer.parseInt(args[1]) : 1500;
         int wrong = 0;
         for (int run = from; run < to && wrong < 3; run++) {
             if (!new RandomRunsTest(run).play()) wrong++;
