@@ -472,7 +472,7 @@ public final class GuardNets {
     private static final class Nets {
         static final int LETTER = 0, ANY = 1, CHAIN = 2, BOTH = 3, SOME = 4;
         static final int MOST_KNOTS = 250, MOST_TEXT = 80;
-        // A TEXT that is refused at its end has put its KNOTS, fewer than its characters, behind the others.
+        // A TEXT that is refused at its end has put its KNOTS, no more than its characters, behind the others.
         static final int ROOM = MOST_KNOTS + MOST_TEXT;
 
         final int[] text = new int[MOST_TEXT];
@@ -802,8 +802,13 @@ public final class GuardNets {
             over = false;
             for (int k = 0; k <= root; k++) {
                 if (!needed[k]) continue;
-                if (nets.sorts[k] == Nets.LETTER) row[k] = rank[nets.sizes[k]];
-                else fillKnot(k);
+                if (nets.sorts[k] == Nets.LETTER) {
+                    row[k] = rank[nets.sizes[k]];
+                    continue;
+                }
+                fillKnot(k);
+                if (leasts[k] == 0) leasts[k] = countLeast(row[k] * words);
+                if (leasts[k] > MOST_LEAST) over = true;
             }
             base = row[root] * words;
         }
@@ -856,8 +861,6 @@ public final class GuardNets {
                 int part = nets.partOf(k, i);
                 if (nets.sorts[part] != Nets.LETTER && lastUse[part] == k) busy[row[part]] = false;
             }
-            if (leasts[k] == 0) leasts[k] = countLeast(to * words);
-            if (leasts[k] > MOST_LEAST) over = true;
         }
 
         private void fillRow(int k) {

@@ -19,7 +19,11 @@ public final class WaysTest {
             "(a|b)&(a|c)&(a|d)", "a>a>a", "[2a|b,a&c,b]"};
         int[] due = {1, 2, 2, 3, 1, 1, 2, 70, 2, 1, 2};
         for (int i = 0; i < texts.length; i++) Due.is("12 ways " + texts[i], Due.with(texts[i]).ways(0), due[i]);
-        GuardNets x = Due.with("a|b", "0&c", "1|0", "[2 0, 1, d]");
+        GuardNets x = Due.with("a>b>c>d>e>f>g>h>i>j>k>l>m>n>o>p", "p&(a|b&c&d&e&f&g&h&i&j&k&l&m&n&o)");
+        Due.is("12 one of all steps", x.ways(0), 1);
+        Due.is("13 all steps", x.wayAt(0, 0), 65535);
+        Due.is("13 long ones behind", x.wayAt(1, 1), 65534);
+        x = Due.with("a|b", "0&c", "1|0", "[2 0, 1, d]");
         int[] nets = {2, 2, 2, 4};
         for (int net = 0; net < 4; net++) Due.is("12 ways " + net, x.ways(net), nets[net]);
         for (int net = 3; net >= 0; net--) Due.is("12 ways again " + net, x.ways(net), nets[net]);
