@@ -1217,9 +1217,9 @@ public final class GuardNets {
             for (int i = 0; i < n; i++) row[from + i] = 0;
         }
 
-        /** The row if it is long enough, else a new one. */
+        /** The row if it is long enough, else a new one, twice as long at least: so few rows are left behind. */
         static int[] grown(int[] row, int need) {
-            return row.length >= need ? row : new int[need];
+            return row.length >= need ? row : new int[Math.max(need, 2 * row.length)];
         }
     }
 

@@ -30,6 +30,7 @@ public final class BigNetsTest {
     private void due(String name, int... a) {
         long want = plain.call(name, a);
         Due.is(name + Arrays.toString(a) + " with \"" + plain.text + "\"", Calls.call(x, name, a), want);
+        if (!Calls.putsFraction(name)) return;
         String got = Due.fraction(x);
         Due.is("the fraction behind " + name + Arrays.toString(a), got, plain.above + "/" + plain.below);
     }
@@ -46,7 +47,7 @@ public final class BigNetsTest {
             due("trace", s, random.nextInt(256) & random.nextInt(256), random.nextInt(8));
         }
         for (int g = 0; g < 3; g++) due("guard", random.nextInt(65536) & random.nextInt(65536), random.nextInt(20));
-        for (int p = 0; p < 4; p++) {
+        for (int p = 0; p < 3; p++) {
             due("patrol");
             for (int s = 0; s < 16; s++) due("catches", p, s, random.nextInt(1001));
         }
@@ -73,12 +74,12 @@ public final class BigNetsTest {
             due("worst", net, 1, what);
             due("frontAt", net, 1, what);
         }
-        for (int i = 0; i < 5; i++) due("wayAt", net, random.nextInt(40));
+        for (int i = 0; i < 3; i++) due("wayAt", net, random.nextInt(40));
         due("weight", net, random.nextInt(16));
         due("may", net, 1, 4);
         due("ask", net, 1, 4);
         due("best", net, random.nextInt(200));
-        for (int i = 0; i < 20; i++) due("reaches", net, random.nextInt(65536) | random.nextInt(65536));
+        for (int i = 0; i < 6; i++) due("reaches", net, random.nextInt(65536) | random.nextInt(65536));
     }
 
     /** As many STEPS as BEST can have. */
@@ -107,7 +108,7 @@ public final class BigNetsTest {
         StringBuilder row = new StringBuilder("0");
         for (int i = 1; i < 40; i++) row.append("|&>".charAt(i % 3)).append('0');
         text(1, row.toString());
-        for (int n = 0; x.count(1) < 235 && n < 250; n++) due("make", n % 2);
+        for (int n = 0; plain.knots.size() < 235 && n < 250; n++) due("make", n % 2);
         text(2, "0|0|0|0|0|0|0|0|0|0|0|0|0|0|0|0|0|0|0|0|0|0|0|0|0|0|0|0|0|0|0|0|0|0|0|0|0|0|0|0");
         for (int n = 0; n < 20; n++) due("make", n % 3);
         Due.is("knots", x.count(1), 250);

@@ -27,6 +27,10 @@ final class Calls {
         }
     }
 
+    static boolean putsFraction(String name) {
+        return name.equals("chance") || name.equals("weight") || name.equals("best") || name.equals("frontAt") || name.equals("game");
+    }
+
     static long call(GuardNets x, String name, int... a) {
         switch (name) {
             case "step": return x.step(a[0], a[1], a[2], a[3]);

@@ -2,25 +2,28 @@ import java.math.BigInteger;
 
 /** Counts and prints what is not as it is due. */
 final class Due {
+    private static int asked = 0;
     private static int wrong = 0;
 
     private Due() {
     }
 
     static void is(String what, long got, long want) {
+        asked++;
         if (got == want) return;
         wrong++;
         System.out.println(what + " answered " + got + ", due is " + want);
     }
 
     static void is(String what, String got, String want) {
+        asked++;
         if (got.equals(want)) return;
         wrong++;
         System.out.println(what + " is " + got + ", due is " + want);
     }
 
     static void end() {
-        System.out.println(wrong == 0 ? "all answers are as due" : wrong + " answers are not as due");
+        System.out.println(wrong == 0 ? "all " + asked + " answers are as due" : wrong + " of " + asked + " answers are not as due");
         if (wrong != 0) System.exit(1);
     }
 

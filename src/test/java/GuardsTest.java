@@ -229,13 +229,12 @@ public final class GuardsTest {
 
     /** Tables of 6 by 24, with large values, held against another way to work them. */
     private static void gamesAtTheirLimit() {
-        String rows = "(a|b|c|d|e|f)&(g|h|i|j)";
-        GuardNets x = Due.with(rows, "0|k", "0>l");
-        Due.is("30 ways", x.ways(0), 24);
-        Due.is("30 ways", x.ways(1), 25);
         long seed = 12345;
-        for (int p = 0; p < 6; p++) x.patrol();
         for (int game = 0; game < 60; game++) {
+            GuardNets x = Due.with(Houses.WAYS_24, "0|k", "0>l");
+            Due.is("30 ways", x.ways(0), 24);
+            Due.is("30 ways", x.ways(1), 25);
+            for (int p = 0; p < 6; p++) x.patrol();
             int[][] c = new int[6][16];
             for (int p = 0; p < 6; p++) {
                 for (int s = 0; s < 10; s++) {
@@ -258,8 +257,8 @@ public final class GuardsTest {
             Ratio due = PlainGame.valueByTurning(table);
             game(x, 0, due.up + "/" + due.down);
             game(x, 2, due.up + "/" + due.down);
+            Due.is("30 spent", x.game(1), SPENT);
         }
-        Due.is("30 spent", x.game(1), SPENT);
     }
 
     private static void promises31And32() {

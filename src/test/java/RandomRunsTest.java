@@ -14,6 +14,7 @@ public final class RandomRunsTest {
     private final PlainGuardNets plain = new PlainGuardNets();
     private final List<String> told = new ArrayList<>();
     private int calls = 0;
+    private boolean wrong = false;
 
     private RandomRunsTest(int run) {
         this.run = run;
@@ -28,15 +29,17 @@ public final class RandomRunsTest {
         for (int run = from; run < to && wrong < 3; run++) {
             if (!new RandomRunsTest(run).play()) wrong++;
         }
+        System.out.println("runs " + from + " to " + to + ": " + (wrong == 0 ? "all answers are as due" : "some answers are not as due"));
         if (wrong > 0) System.exit(1);
     }
 
+    /** A TEXT, THE FRACTION and the digest at the end stay within the 512 calls that are promised. */
     private boolean play() {
         prepare();
-        while (calls < 500) {
-            if (!due(pick())) return false;
-        }
-        return due(new Object[] {"digest"});
+        while (calls < 400 && !wrong) due(pick());
+        due("digest");
+        if (!wrong && !sameFraction()) tell("the fraction");
+        return !wrong;
     }
 
     /** At first a house worth asking about. */
@@ -48,25 +51,29 @@ public final class RandomRunsTest {
         for (int n = random.nextInt(3); n >= 0; n--) makeText();
     }
 
-    private boolean due(Object... row) {
+    private void due(Object... row) {
         String name = (String) row[0];
         int[] a = new int[row.length - 1];
         for (int i = 0; i < a.length; i++) a[i] = (Integer) row[i + 1];
         calls++;
         long got = Calls.call(x, name, a);
         long want = plain.call(name, a);
-        told.add(name + Arrays.toString(a) + " " + want);
-        boolean same = got == want && sameFraction();
-        if (!same) {
-            System.out.println("run " + run + ": " + name + Arrays.toString(a) + " answered " + got + ", due is " + want);
-            System.out.println("  text \"" + plain.text + "\", the last calls " + told.subList(Math.max(0, told.size() - 60), told.size()));
-        }
-        return same;
+        String call = name + Arrays.toString(a);
+        told.add(call + " " + want);
+        if (got != want) tell(call + " answered " + got + ", due is " + want);
+        else if (Calls.putsFraction(name) && !sameFraction()) tell("the fraction behind " + call);
+    }
+
+    private void tell(String what) {
+        wrong = true;
+        System.out.println("run " + run + ": " + what);
+        System.out.println("  text \"" + plain.text + "\", the last calls " + told.subList(Math.max(0, told.size() - 60), told.size()));
     }
 
     private boolean sameFraction() {
         for (int part = 0; part < 2; part++) {
             List<Integer> limbs = PlainGuardNets.limbs(part == 0 ? plain.above : plain.below);
+            calls += 1 + limbs.size();
             if (x.limbs(part) != limbs.size()) return false;
             for (int i = 0; i < limbs.size(); i++) if (x.limb(part, i) != limbs.get(i)) return false;
         }

@@ -108,29 +108,6 @@ public final class WaysTest {
         x.step(2, 1, 2, 500);
         int[] due = {3, 5, 8, 3, 6, 5, 2, 6, 2, 3};
         for (int net = 0; net < 10; net++) Due.is("16 many " + net, x.many(net), due[net]);
-        wraps();
-    }
-
-    private static void wraps() {
-        GuardNets x = Due.with("a");
-        x.step(0, 1, 50, 500);
-        StringBuilder row = new StringBuilder("0");
-        for (int i = 1; i < 40; i++) row.append(">0");
-        Due.text(x, row.toString());
-        int time = 50;
-        boolean below = false;
-        for (int n = 0; n < 12; n++) {
-            Due.is("16 make", x.make(0), 0);
-            time *= 40;
-            Due.is("16 wraps", x.many(0), time);
-            Due.put(x, 1, "0|a");
-            Due.is("16 the least", x.many(1), Math.min(time, 50));
-            Due.put(x, 2, "[2 0, a]");
-            Due.is("16 rising", x.many(2), Math.max(time, 50));
-            below |= time < 0;
-            Due.text(x, row.toString());
-        }
-        Due.is("16 came below 0", below ? 1 : 0, 1);
     }
 
     private static void refusals() {
