@@ -9,6 +9,7 @@ public final class EdgesChancesTest {
     public static void main(String[] args) {
         sizesAtTheirEnds();
         sizesAreNeverSpent();
+        aLargeSize();
         chancesOfSize400();
         chancesOfSize401AreSpent();
         chancesAreNotSpentByWays();
@@ -44,6 +45,15 @@ public final class EdgesChancesTest {
         Rows.due("17", x, "size 0 = 400", "size 1 = 401", "size 2 = 510", "size 3 = 16", "ways 3 = -5", "ways 4 = -5", "size 4 = 17", "size 1 = 401");
         Due.is("17 of 12 steps", Houses.ofTerms(Houses.TWELVE_400).size(0), 400);
         Due.is("17 of 12 steps", Houses.ofTerms(Houses.TWELVE_401).size(0), 401);
+    }
+
+    private static void aLargeSize() {
+        GuardNets x = Due.with("a&k&n&p|b&k&n&o|c&l&m&p|d&k&l&p|e&k&o&p|f&k&m&p|g&k&l&m|h&k&m&o|i&k&l&o|j&k&m&n", "a&p|b&o|c&n|d&m|e&l|f&k|g&j|h&i", "a|b");
+        Rows.due("17", x, "size 0 = 2656", "ways 0 = 10", "size 1 = 510", "size 2 = 2", "size 0 = 2656", "chance 0 = -5", "chance 2 = 1", "front 0 = -5");
+        // 43 terms of three to five STEPS.
+        x = Houses.ofTerms(new String[] {"abdgm ceknp bdlmo dijln bjmp cfop afko defn", "ahil adegl ciln bjno adhlm aeijl begjn bfgm",
+            "egj jmn abimo ghip bcmp bcelp cfjno dfkop bdlo", "bcgjk dik hklo fgiko cejo bcfho befop cmp acln"});
+        Rows.due("17", x, "knot 0 4 = 65535", "size 0 = 1150", "ways 0 = 31");
     }
 
     private static void chancesOfSize400() {

@@ -25,6 +25,7 @@ public final class EdgesDrillsTest {
         aChainOf40();
         someThatAreReached();
         noneIfOneIsNeeded();
+        reachedAtTheFirstEvent();
         twelvePlacesAreFull();
         homeOfNoneAndOfAll();
         roundsBeginAgain();
@@ -37,6 +38,7 @@ public final class EdgesDrillsTest {
         endBesideWatchmen();
         orderAtItsEnds();
         ordersOfLikeEnds();
+        ordersThatWait();
         eachAsSoonAsItMayBe();
         imagesAtTheirEnds();
         eachNumberDiffers();
@@ -260,6 +262,13 @@ public final class EdgesDrillsTest {
             "reached 6 0 = -1", "reached 7 0 = 1");
     }
 
+    private static void reachedAtTheFirstEvent() {
+        GuardNets x = Due.with("a|b", "b|a", "a&b", "b&a", "[1a,b]", "[2b,a]", "(a|b)>b", "b|c|a", "c|a|b", "a>b|b");
+        Rows.due("38", x, "event 0 0 = 1", "event 1 0 = 2", "event 2 0 = 3");
+        int[] due = {0, 0, 1, 1, 0, 1, 1, 0, 0, 1};
+        for (int net = 0; net < 10; net++) Due.is("38 reached " + net, x.reached(net, 0), due[net]);
+    }
+
     private static void twelvePlacesAreFull() {
         GuardNets x = new GuardNets();
         for (int man = 0; man < 4; man++) {
@@ -411,6 +420,17 @@ public final class EdgesDrillsTest {
         }
         Rows.due("44 of all alike the first steps first", new GuardNets(), "orderAt 43690 0 0 = -3", "orderAt 43688 0 0 = 3", "orderAt 43688 0 1 = 5",
             "orderAt 43688 0 5 = 13", "orderAt 43688 0 6 = 15");
+    }
+
+    /** Where the last STEP waits, those ahead could be done twice: each is done once. */
+    private static void ordersThatWait() {
+        GuardNets x = new GuardNets();
+        for (int n = 0; n < 11; n++) x.walk(0, 5);
+        x.walk(0, 6);
+        x.trace(1, 0, 5);
+        Rows.due("44", x, "end 3 0 = 12", "orderAt 3 0 0 = 0", "orderAt 3 0 1 = 1", "orderAt 3 0 2 = -1", "end 7 0 = 12", "orderAt 7 0 0 = 0", "orderAt 7 0 1 = 2",
+            "orderAt 7 0 2 = 1", "orderAt 7 10 0 = 0", "orderAt 7 10 1 = 1", "orderAt 7 10 2 = 2", "end 7 10 = 13", "end 7 11 = 14", "orderAt 7 11 0 = 1",
+            "orderAt 7 11 1 = 0", "orderAt 7 11 2 = 2");
     }
 
     /** Each STEP of the ORDER begins at the first minute from which it may, and no other ORDER ends sooner. */

@@ -26,6 +26,7 @@ public final class EdgesStepsTextsTest {
         fault5();
         fault6();
         fault6WithOthers();
+        asManyPartsAsCanBe();
         fault7();
         theFirstFaultIsTold();
         aFaultChangesNothing();
@@ -342,6 +343,17 @@ public final class EdgesStepsTextsTest {
         Due.is("8 all go", x.clear(), 249);
         Due.is("7 room again", Due.put(x, 1, many), 0);
         Due.is("7 knots", x.count(1), 40);
+    }
+
+    /** 249 rows of 40 parts each. */
+    private static void asManyPartsAsCanBe() {
+        GuardNets x = Due.with("p");
+        Due.text(x, Houses.rowOf(40, "0", '&'));
+        for (int n = 1; n < 250; n++) Due.is("7 make", x.make(n == 1 ? 1 : 0), 0);
+        Rows.refused("7 one row above", x, "make 0", 796);
+        Rows.due("10 parts of all", x, "count 1 = 250", "knot 0 0 = 249", "knot 0 2 = 40", "knot 0 4 = 32768", "part 1 0 = 0", "part 1 39 = 0", "part 2 0 = 0",
+            "part 3 0 = 2", "part 3 39 = 2", "part 12 39 = 11", "part 13 0 = 12", "part 14 39 = 13", "part 26 7 = 25", "part 249 0 = 248", "part 249 39 = 248",
+            "part 249 40 = -1", "ways 0 = 1", "wayAt 0 0 = 32768", "size 0 = 1", "reaches 0 32768 = 1", "reaches 0 32767 = 0", "many 0 = 1");
     }
 
     private static void fault7() {

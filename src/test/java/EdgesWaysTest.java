@@ -12,6 +12,8 @@ public final class EdgesWaysTest {
         spentAtAKnotWithin();
         spentByKnotsOfTheNetAlone();
         spentBySets();
+        spentPartsOfOthers();
+        manyRowsInOneNet();
         wayAtItsEnds();
         sumsAtTheirEnds();
         ofLikeOnesTheFirst();
@@ -88,6 +90,35 @@ public final class EdgesWaysTest {
         GuardNets x = Due.with("a&(b|c|d|e|f|g|h|i|j|k|l|m|n|o|p)", "[1a,b,c,d,e,f,g,h]", "[8a,b,c,d,e,f,g,h]", "[4a,b,c,d,e,f,g,h]",
             "[2 3,i|j|k|l]", "[1 3,i|j|k|l]");
         Rows.due("12", x, "ways 0 = 15", "ways 1 = 8", "ways 2 = 1", "ways 3 = 70", "ways 4 = -5", "ways 5 = 74");
+    }
+
+    /** NETS beside one that has too many SETS within: theirs alone count. */
+    private static void spentPartsOfOthers() {
+        GuardNets x = Due.with(Houses.WAYS_201, "0|a", "b|c", "[2 0,a,b]", "d", "4&2");
+        Rows.due("12", x, "ways 0 = -5", "ways 1 = -5", "ways 2 = 2", "ways 3 = -5", "ways 4 = 1", "ways 5 = 2", "ways 1 = -5", "ways 5 = 2", "wayAt 5 0 = 10");
+    }
+
+    /** Some 60 rows, one in the other: what each KNOT is reached by is needed for a while alone. */
+    private static void manyRowsInOneNet() {
+        String[] texts = {"(0|a)&(b|c)", "[2 0,d|e,a&f]", "0&(g|h)|a&i", "(0>k|l)&(m|n)", "[1 0&o,(p|b)&c]"};
+        PlainGuardNets plain = new PlainGuardNets();
+        GuardNets x = Due.with("a");
+        write(plain, "a");
+        for (int i = 0; i < 20; i++) {
+            String text = texts[i % texts.length];
+            write(plain, text);
+            Due.is("12 make " + text, Due.put(x, 0, text), 0);
+            Due.is("12 ways of " + i, x.ways(0), plain.call("ways", 0));
+            Due.is("13 way of " + i, x.wayAt(0, i), plain.call("wayAt", 0, i));
+            Due.is("17 size of " + i, x.size(0), plain.call("size", 0));
+            Due.is("11 reached " + i, x.reaches(0, 21845), plain.call("reaches", 0, 21845));
+        }
+    }
+
+    private static void write(PlainGuardNets plain, String text) {
+        plain.call("erase");
+        for (char c : text.toCharArray()) plain.call("write", c);
+        plain.call("make", 0);
     }
 
     private static void wayAtItsEnds() {
