@@ -55,7 +55,7 @@ public final class AgainTest {
         StringBuilder all = new StringBuilder();
         for (String row : ASKED) {
             all.append(row).append(' ').append(Rows.call(x, row.replace("N", "" + net)));
-            if (Calls.putsFraction(row.split(" ")[0])) all.append(' ').append(Due.fraction(x));
+            if (Calls.putsFraction(Rows.name(row))) all.append(' ').append(Due.fraction(x));
             all.append("; ");
         }
         return all.toString();

@@ -533,20 +533,13 @@ public final class EdgesDrillsTest {
     private static void digestsAtTheirEnds() {
         PlainGuardNets plain = new PlainGuardNets();
         GuardNets x = new GuardNets();
-        Due.is("49 new", x.digest(), plain.call("digest"));
-        for (String row : Houses.fullRows()) {
-            String[] words = row.split(" ");
-            int[] a = new int[words.length - 1];
-            for (int i = 0; i < a.length; i++) a[i] = Integer.parseInt(words[i + 1]);
-            Due.is("49 " + row, Calls.call(x, words[0], a), plain.call(words[0], a));
-        }
-        Due.is("49 full", x.digest(), plain.call("digest"));
+        Rows.alike("49 new", x, plain, "digest");
+        for (String row : Houses.fullRows()) Rows.alike("49", x, plain, row);
+        Rows.alike("49 full", x, plain, "digest");
         String[] parts = {"erase", "rest", "home 0", "home 1", "home 2", "home 3", "clear"};
         for (String row : parts) {
-            String[] words = row.split(" ");
-            int[] a = words.length > 1 ? new int[] {Integer.parseInt(words[1])} : new int[0];
-            Due.is("49 " + row, Calls.call(x, words[0], a), plain.call(words[0], a));
-            Due.is("49 behind " + row, x.digest(), plain.call("digest"));
+            Rows.alike("49", x, plain, row);
+            Rows.alike("49 behind " + row, x, plain, "digest");
         }
     }
 

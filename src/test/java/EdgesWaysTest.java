@@ -102,23 +102,19 @@ public final class EdgesWaysTest {
     private static void manyRowsInOneNet() {
         String[] texts = {"(0|a)&(b|c)", "[2 0,d|e,a&f]", "0&(g|h)|a&i", "(0>k|l)&(m|n)", "[1 0&o,(p|b)&c]"};
         PlainGuardNets plain = new PlainGuardNets();
-        GuardNets x = Due.with("a");
-        write(plain, "a");
+        GuardNets x = new GuardNets();
+        write(x, plain, "a");
         for (int i = 0; i < 20; i++) {
-            String text = texts[i % texts.length];
-            write(plain, text);
-            Due.is("12 make " + text, Due.put(x, 0, text), 0);
-            Due.is("12 ways of " + i, x.ways(0), plain.call("ways", 0));
-            Due.is("13 way of " + i, x.wayAt(0, i), plain.call("wayAt", 0, i));
-            Due.is("17 size of " + i, x.size(0), plain.call("size", 0));
-            Due.is("11 reached " + i, x.reaches(0, 21845), plain.call("reaches", 0, 21845));
+            write(x, plain, texts[i % texts.length]);
+            String[] asked = {"ways 0", "wayAt 0 " + i, "size 0", "reaches 0 21845"};
+            for (String row : asked) Rows.alike("12 of text " + i, x, plain, row);
         }
     }
 
-    private static void write(PlainGuardNets plain, String text) {
-        plain.call("erase");
-        for (char c : text.toCharArray()) plain.call("write", c);
-        plain.call("make", 0);
+    private static void write(GuardNets x, PlainGuardNets plain, String text) {
+        Rows.alike("12", x, plain, "erase");
+        for (int i = 0; i < text.length(); i++) Rows.alike("12", x, plain, "write " + (int) text.charAt(i));
+        Rows.alike("12 " + text, x, plain, "make 0");
     }
 
     private static void wayAtItsEnds() {

@@ -4,10 +4,23 @@ final class Rows {
     }
 
     static long call(GuardNets x, String row) {
+        return Calls.call(x, name(row), numbers(row));
+    }
+
+    static String name(String row) {
+        return row.split(" ")[0];
+    }
+
+    static int[] numbers(String row) {
         String[] words = row.split(" ");
         int[] a = new int[words.length - 1];
         for (int i = 0; i < a.length; i++) a[i] = Integer.parseInt(words[i + 1]);
-        return Calls.call(x, words[0], a);
+        return a;
+    }
+
+    /** The call is answered as the document told once more, slowly, answers it. */
+    static void alike(String promise, GuardNets x, PlainGuardNets plain, String row) {
+        Due.is(promise + " " + row, call(x, row), plain.call(name(row), numbers(row)));
     }
 
     /** Each row tells a call and its answer, as "event 3 7 = 1". */
