@@ -408,6 +408,8 @@ public final class GuardNets {
     /** The five numbers of each STEP, and two IMAGES of them all. */
     private static final class House {
         static final int PRICE = 0, TIME = 1, CHANCE = 2, MARKS = 3, PLACE = 4, NUMBERS = 5;
+        // No sum of PRICES comes there, and none of TIMES.
+        static final int ABOVE_SUMS = STEPS * MOST_PRICE + 1;
 
         final int[] now = new int[STEPS * NUMBERS];
         final int[][] images = new int[2][STEPS * NUMBERS];
@@ -991,7 +993,7 @@ public final class GuardNets {
 
         int firstLeast(int what) {
             int best = 0;
-            int least = Integer.MAX_VALUE;
+            int least = House.ABOVE_SUMS;
             for (int i = 0; i < total; i++) {
                 int sum = house.sumOf(list[i], what);
                 if (sum < least) {
@@ -1018,7 +1020,7 @@ public final class GuardNets {
         }
 
         int leastPriceWith(int free) {
-            int least = Integer.MAX_VALUE;
+            int least = House.ABOVE_SUMS;
             for (int i = 0; i < total; i++) {
                 least = Math.min(least, house.sumOf(list[i] & ~free, House.PRICE));
             }
@@ -1027,7 +1029,7 @@ public final class GuardNets {
 
         int worstSet(int k) {
             int worst = 0;
-            int least = Integer.MAX_VALUE;
+            int least = House.ABOVE_SUMS;
             for (int set = 0; set < 1 << insiders; set++) {
                 if (Integer.bitCount(set) != k) continue;
                 int price = leastPriceWith(givenBy(set));
@@ -1152,12 +1154,14 @@ public final class GuardNets {
         }
 
         private static int remainder(int[] row, int by) {
+            if (by < 1) return 0;
             long rest = 0;
             for (int i = LIMBS - 1; i >= 0; i--) rest = ((rest << BITS) + row[i]) % by;
             return (int) rest;
         }
 
         private static void divide(int[] row, int by) {
+            if (by < 1) return;
             long rest = 0;
             for (int i = LIMBS - 1; i >= 0; i--) {
                 rest = (rest << BITS) + row[i];
@@ -1514,6 +1518,7 @@ public final class GuardNets {
     /** PATROLS, and THE GAME, as a table of whole numbers by one divisor, turned till nobody gains. */
     private static final class Game {
         static final int MOST_PATROLS = 6, MOST_WAYS = 24;
+        static final long TOP_BIT = 1L << 63;
 
         final Ways ways;
         final int[] catching = new int[MOST_PATROLS * STEPS];
@@ -1650,7 +1655,8 @@ public final class GuardNets {
 
         /** The upper 64 bits of a b - c d. */
         private static long highOfDifference(long a, long b, long c, long d) {
-            boolean borrow = a * b + Long.MIN_VALUE < c * d + Long.MIN_VALUE;
+            // With the top bit turned, numbers without a sign compare as those with one.
+            boolean borrow = (a * b ^ TOP_BIT) < (c * d ^ TOP_BIT);
             return highOfProduct(a, b) - highOfProduct(c, d) - (borrow ? 1 : 0);
         }
 

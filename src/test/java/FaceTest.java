@@ -74,7 +74,7 @@ public final class FaceTest {
         String[] forbidden = {"\\bthrow\\b", "\\bthrows\\b", "\\btry\\b", "\\bcatch\\b", "\\bsynchronized\\b", "\\bassert\\b", "->", "::",
             "\\bpackage\\b", "\\bprotected\\b", "Exact\\b", "\\bdouble\\b", "\\bfloat\\b", "\\bvar\\b", "\\bObject\\b", "\\bString\\b",
             "\\bnew \\w+\\([^)]*\\) *\\{", "\\bnative\\b", "\\bSystem\\.(?!arraycopy)", "\\bArrays\\.(?!copyOf\\(|copyOfRange\\(|fill\\()",
-            "\\bMath\\.(?!max|min|abs)", "\\bInteger\\.(?!bitCount|MAX_VALUE|MIN_VALUE)", "\\bLong\\.(?!bitCount|MIN_VALUE)", "\\bstatic \\{"};
+            "\\bMath\\.(?!(max|min|abs)\\()", "\\bInteger\\.(?!bitCount\\()", "\\bLong\\.(?!bitCount\\()", "\\bstatic \\{"};
         for (String pattern : forbidden) {
             Matcher m = Pattern.compile(pattern).matcher(bare);
             if (m.find()) Due.is("the source has " + pattern + " at \"" + bare.substring(m.start(), Math.min(bare.length(), m.start() + 40)) + "\"", 1, 0);
